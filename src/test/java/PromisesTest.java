@@ -1,15 +1,5 @@
 // One method for each promise of the document: ordinary inputs, the edges that it names, and wrong inputs.
-public final class PromisesTest {
-    private static final int[] WRONG_POINTS = {-1, 7, 32, -32, Integer.MIN_VALUE, Integer.MAX_VALUE};
-    private static final int[] WRONG_LINES = {-1, 10, 31, 32, -32, Integer.MIN_VALUE, Integer.MAX_VALUE};
-    private static final int[] WRONG_PRICES = {0, 101, -1, 257, Integer.MIN_VALUE, Integer.MAX_VALUE};
-
-    private static int wrong = 0;
-
-    private interface Call {
-        int on(SteinerNet net);
-    }
-
+public final class PromisesTest extends Checks {
     public static void main(String[] args) {
         promise1NewObject();
         promise2Line();
@@ -34,96 +24,7 @@ public final class PromisesTest {
         promise11RefusalComesFirst();
         objectsAreApart();
         longRun();
-        System.out.println(wrong == 0 ? "all answers are as due" : wrong + " answers are not as due");
-        if (wrong != 0) {
-            System.exit(1);
-        }
-    }
-
-    private static void due(String what, int got, int want) {
-        if (got != want) {
-            wrong++;
-            System.out.println(what + " answered " + got + ", due is " + want);
-        }
-    }
-
-    private static SteinerNet netOf(int[]... lines) {
-        SteinerNet net = new SteinerNet();
-        for (int[] l : lines) {
-            due("line(" + l[0] + ", " + l[1] + ", " + l[2] + ", " + l[3] + ")", net.line(l[0], l[1], l[2], l[3]), 0);
-        }
-        return net;
-    }
-
-    private static int[] of(int line, int a, int b, int price) {
-        return new int[] {line, a, b, price};
-    }
-
-    private static void markAll(SteinerNet net, int... points) {
-        for (int point : points) {
-            due("mark(" + point + ", true)", net.mark(point, true), 0);
-        }
-    }
-
-    private static void dueChosen(String what, SteinerNet net, int... answers) {
-        for (int line = 0; line < answers.length; line++) {
-            due(what + ": chosen(" + line + ")", net.chosen(line), answers[line]);
-        }
-    }
-
-    // A net with lines there and not there, with marked points and others, for the calls that must change nothing.
-    private static SteinerNet sampleNet() {
-        SteinerNet net = netOf(of(0, 0, 1, 4), of(1, 1, 2, 4), of(2, 0, 2, 5), of(3, 0, 3, 2), of(4, 1, 3, 1),
-                of(5, 2, 3, 3), of(7, 5, 6, 100), of(9, 3, 6, 7));
-        markAll(net, 0, 2, 6);
-        return net;
-    }
-
-    // Everything that can be asked; the marks are put back as they were.
-    private static String everything(SteinerNet net) {
-        StringBuilder all = new StringBuilder();
-        all.append("least ").append(net.least());
-        for (int line = 0; line < 10; line++) {
-            all.append("; line ").append(line).append(": ").append(net.chosen(line));
-            all.append(' ').append(net.with(line)).append(' ').append(net.without(line));
-        }
-        for (int a = 0; a < 7; a++) {
-            all.append("; point ").append(a).append(": ").append(net.including(a));
-            for (int b = 0; b < 7; b++) {
-                all.append(' ').append(net.between(a, b));
-            }
-        }
-        for (int point = 0; point < 7; point++) {
-            int marked = net.mark(point, true);
-            net.mark(point, marked == 1);
-            all.append(" m").append(marked);
-        }
-        return all.toString();
-    }
-
-    private static void dueRefused(String what, Call call) {
-        SteinerNet net = sampleNet();
-        String before = everything(net);
-        due(what, call.on(net), -2);
-        dueSame(what, before, everything(net));
-        SteinerNet fresh = new SteinerNet();
-        String freshBefore = everything(fresh);
-        due(what + " on a new object", call.on(fresh), -2);
-        dueSame(what + " on a new object", freshBefore, everything(fresh));
-    }
-
-    private static void dueUnchanged(String what, Call call) {
-        SteinerNet net = sampleNet();
-        String before = everything(net);
-        call.on(net);
-        dueSame(what, before, everything(net));
-    }
-
-    private static void dueSame(String what, String before, String after) {
-        if (!before.equals(after)) {
-            wrong++;
-            System.out.println(what + " changed the object from [" + before + "] to [" + after + "]");
-        }
+        end();
     }
 
     private static void promise1NewObject() {
@@ -236,8 +137,8 @@ public final class PromisesTest {
         for (int line : WRONG_LINES) {
             dueRefused("cut(" + line + ")", n -> n.cut(line));
         }
-        dueRefused("cut(6), which is not there", n -> n.cut(6));
-        dueRefused("cut(8), which is not there", n -> n.cut(8));
+        dueRefusedFrom(Checks::someLines, "cut(6), which is not there", n -> n.cut(6));
+        dueRefusedFrom(Checks::someLines, "cut(8), which is not there", n -> n.cut(8));
     }
 
     private static void promise4Mark() {
@@ -344,7 +245,7 @@ public final class PromisesTest {
         for (int line : WRONG_LINES) {
             dueRefused("chosen(" + line + ")", n -> n.chosen(line));
         }
-        dueRefused("chosen(6), which is not there", n -> n.chosen(6));
+        dueRefusedFrom(Checks::someLines, "chosen(6), which is not there", n -> n.chosen(6));
     }
 
     private static void promise7With() {
@@ -387,8 +288,8 @@ public final class PromisesTest {
             dueRefused("with(" + line + ")", n -> n.with(line));
             dueRefused("without(" + line + ")", n -> n.without(line));
         }
-        dueRefused("with(6), which is not there", n -> n.with(6));
-        dueRefused("without(6), which is not there", n -> n.without(6));
+        dueRefusedFrom(Checks::someLines, "with(6), which is not there", n -> n.with(6));
+        dueRefusedFrom(Checks::someLines, "without(6), which is not there", n -> n.without(6));
 
         SteinerNet none = netOf(of(1, 0, 1, 5));
         markAll(none, 0, 6);
