@@ -147,7 +147,7 @@ public final class SteinerNet {
 
     private boolean joins(int choice, int points) {
         int reached = points & -points;
-        // A round that reaches no new point is the last that matters, so there are fewer of use than points.
+        // Until all that can be reached is reached, each round reaches a new point: POINTS - 1 rounds are enough.
         for (int round = 1; round < POINTS; round++) {
             reached = reachedOverLines(choice, reached);
         }

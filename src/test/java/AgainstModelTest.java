@@ -1,5 +1,6 @@
 import java.util.ArrayList;
 import java.util.List;
+import java.util.Map;
 import java.util.Set;
 import java.util.TreeMap;
 import java.util.TreeSet;
@@ -10,6 +11,15 @@ public final class AgainstModelTest {
     private static final int CALLS = 512;
     private static final int[] ODD_NUMBERS = {-1, 7, 8, 9, 10, 11, 31, 32, 33, -32, 64, Integer.MIN_VALUE, Integer.MAX_VALUE};
 
+    // What each method can answer, where 'price' stands for any answer above 0; the runs have to meet all of it.
+    private static final Map<String, Set<String>> ANSWERS = Map.of(
+            "line", Set.of("0", "-2"), "cut", Set.of("0", "-2"), "mark", Set.of("0", "1", "-2"),
+            "least", Set.of("price", "0", "-1"), "chosen", Set.of("0", "1", "-1", "-2"),
+            "with", Set.of("price", "-1", "-2", "-2 never put in", "-2 cut"),
+            "without", Set.of("price", "0", "-1", "-2", "-2 never put in", "-2 cut"),
+            "including", Set.of("price", "0", "-1", "-2"), "between", Set.of("price", "0", "-1", "-2"));
+
+    private static final Map<String, Set<String>> MET = new TreeMap<>();
     private static int wrong = 0;
 
     private record Line(int a, int b, int price) { }
@@ -20,6 +30,8 @@ public final class AgainstModelTest {
     private static final class Model {
         final TreeMap<Integer, Line> lines = new TreeMap<>();
         final TreeSet<Integer> marked = new TreeSet<>();
+        // Not needed for an answer: it tells a line that was cut from one that was never put in.
+        final TreeSet<Integer> everThere = new TreeSet<>();
 
         List<Choice> choices() {
             List<Choice> all = new ArrayList<>();
@@ -69,6 +81,7 @@ public final class AgainstModelTest {
             boolean right = 0 <= line && line <= 9 && point(a) && point(b) && a != b && 1 <= price && price <= 100;
             if (right) {
                 lines.put(line, new Line(a, b, price));
+                everThere.add(line);
             }
             return right ? 0 : -2;
         }
@@ -117,6 +130,16 @@ public final class AgainstModelTest {
 
     // The same numbers in each run of the test, so that a failure comes again.
     private long seed;
+    private final int run;
+    private int call = 0;
+    private final SteinerNet net = new SteinerNet();
+    private final Model model = new Model();
+    private final Set<String> methodsCalled = new TreeSet<>();
+
+    private AgainstModelTest(int run) {
+        this.run = run;
+        seed = run;
+    }
 
     private int below(int bound) {
         seed = seed * 6364136223846793005L + 1442695040888963407L;
@@ -129,7 +152,10 @@ public final class AgainstModelTest {
 
     public static void main(String[] args) {
         for (int run = 0; run < RUNS; run++) {
-            new AgainstModelTest().play(run);
+            new AgainstModelTest(run).play();
+        }
+        if (wrong == 0) {
+            checkAllIsMet();
         }
         System.out.println(wrong == 0 ? "all answers are as due" : wrong + " answers are not as due");
         if (wrong != 0) {
@@ -137,52 +163,79 @@ public final class AgainstModelTest {
         }
     }
 
-    private void play(int run) {
-        seed = run;
+    private void play() {
         // Few different prices make many choices of the same price.
         int greatestPrice = new int[] {1, 2, 4, 10, 100}[run % 5];
         // Runs with many cuts stay small; the others fill up to ten lines.
         int cutsIn100 = run % 2 == 0 ? 2 : 8;
-        SteinerNet net = new SteinerNet();
-        Model model = new Model();
-        for (int call = 0; call < CALLS && wrong < 20; call++) {
-            step(run, call, net, model, greatestPrice, cutsIn100);
+        while (call < CALLS && wrong < 20) {
+            call++;
+            step(greatestPrice, cutsIn100);
+        }
+        if (wrong == 0 && !methodsCalled.equals(ANSWERS.keySet())) {
+            wrong++;
+            System.out.println("run " + run + " mixes only " + methodsCalled);
         }
     }
 
-    private void step(int run, int call, SteinerNet net, Model model, int greatestPrice, int cutsIn100) {
+    private void step(int greatestPrice, int cutsIn100) {
         int kind = below(100);
         int line = mostly(10);
         int a = mostly(7);
         int b = mostly(7);
         int price = below(25) == 0 ? below(140) - 20 : 1 + below(greatestPrice);
         boolean on = below(5) < 3;
-        String at = "run " + run + ", call " + call + ": ";
         if (kind < 20) {
-            due(at + "line(" + line + ", " + a + ", " + b + ", " + price + ")", net.line(line, a, b, price), model.line(line, a, b, price));
+            due("line", List.of(line, a, b, price), net.line(line, a, b, price), model.line(line, a, b, price));
         } else if (kind < 20 + cutsIn100) {
-            due(at + "cut(" + line + ")", net.cut(line), model.cut(line));
+            due("cut", List.of(line), net.cut(line), model.cut(line));
         } else if (kind < 40) {
-            due(at + "mark(" + a + ", " + on + ")", net.mark(a, on), model.mark(a, on));
+            due("mark", List.of(a, on), net.mark(a, on), model.mark(a, on));
         } else if (kind < 45) {
-            due(at + "least()", net.least(), model.leastPrice(model.marked, -1, -1));
+            due("least", List.of(), net.least(), model.leastPrice(model.marked, -1, -1));
         } else if (kind < 65) {
-            due(at + "chosen(" + line + ")", net.chosen(line), model.chosen(line));
+            due("chosen", List.of(line), net.chosen(line), model.chosen(line));
         } else if (kind < 75) {
-            due(at + "with(" + line + ")", net.with(line), model.with(line));
+            due("with", List.of(line), net.with(line), model.with(line));
+            meetLineNotThere("with", line);
         } else if (kind < 85) {
-            due(at + "without(" + line + ")", net.without(line), model.without(line));
+            due("without", List.of(line), net.without(line), model.without(line));
+            meetLineNotThere("without", line);
         } else if (kind < 93) {
-            due(at + "including(" + a + ")", net.including(a), model.including(a));
+            due("including", List.of(a), net.including(a), model.including(a));
         } else {
-            due(at + "between(" + a + ", " + b + ")", net.between(a, b), model.between(a, b));
+            due("between", List.of(a, b), net.between(a, b), model.between(a, b));
         }
     }
 
-    private static void due(String what, int got, int want) {
+    private void due(String method, List<?> arguments, int got, int want) {
+        methodsCalled.add(method);
+        boolean isPrice = want > 0 && ANSWERS.get(method).contains("price");
+        meet(method, isPrice ? "price" : String.valueOf(want));
         if (got != want) {
             wrong++;
-            System.out.println(what + " answered " + got + ", due is " + want);
+            String told = method + arguments.toString().replace('[', '(').replace(']', ')');
+            System.out.println("run " + run + ", call " + call + ": " + told + " answered " + got + ", due is " + want);
         }
+    }
+
+    private void meetLineNotThere(String method, int line) {
+        if (0 <= line && line <= 9 && !model.lines.containsKey(line)) {
+            meet(method, model.everThere.contains(line) ? "-2 cut" : "-2 never put in");
+        }
+    }
+
+    private static void meet(String method, String answer) {
+        MET.computeIfAbsent(method, m -> new TreeSet<>()).add(answer);
+    }
+
+    // Runs that never meet an answer would pass without having tested it.
+    private static void checkAllIsMet() {
+        ANSWERS.forEach((method, answers) -> {
+            if (!answers.equals(MET.get(method))) {
+                wrong++;
+                System.out.println("the runs meet only " + MET.get(method) + " of " + method);
+            }
+        });
     }
 }
