@@ -6,14 +6,12 @@ import java.util.Set;
 import java.util.TreeSet;
 
 // The class shows the document's public face and nothing else, and its fields are of the kinds LANGUAGE.md allows.
-public final class FaceTest {
+public final class FaceTest extends Holds {
     private static final Set<String> FACE = Set.of(
             "int line(int, int, int, int)", "int cut(int)", "int mark(int, boolean)", "int least()", "int chosen(int)",
             "int with(int)", "int without(int)", "int including(int)", "int between(int, int)");
     private static final Set<Class<?>> NUMBERS =
             Set.of(int.class, long.class, short.class, byte.class, char.class, boolean.class);
-
-    private static int wrong = 0;
 
     public static void main(String[] args) {
         Class<?> face = SteinerNet.class;
@@ -25,17 +23,7 @@ public final class FaceTest {
         for (Field field : face.getDeclaredFields()) {
             checkField(field);
         }
-        System.out.println(wrong == 0 ? "the face is as due" : wrong + " things are not as due");
-        if (wrong != 0) {
-            System.exit(1);
-        }
-    }
-
-    private static void check(boolean holds, String what) {
-        if (!holds) {
-            wrong++;
-            System.out.println("does not hold: " + what);
-        }
+        end();
     }
 
     private static void checkConstructor(Class<?> face) {

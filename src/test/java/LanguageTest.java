@@ -13,7 +13,7 @@ import java.util.stream.Stream;
 
 // The rules of LANGUAGE.md that the text of the class can show. It reads the text as it is laid out here: members
 // stand four blanks in, and a member's closing brace does too. FaceTest looks at rule 1's members and rule 2's fields.
-public final class LanguageTest {
+public final class LanguageTest extends Holds {
     private static final Path FOLDER = Path.of("src/main/java");
     private static final Path SOURCE = FOLDER.resolve("SteinerNet.java");
 
@@ -28,8 +28,6 @@ public final class LanguageTest {
             + "|->|::|\"|\\[\\]\\s*\\[|static \\{");
     private static final Pattern ARRAY_FIELD = Pattern.compile("private final \\w+\\[\\] \\w+ = new \\w+\\[(?:[1-9]\\d*|[A-Z_]+)\\];");
 
-    private static int wrong = 0;
-
     public static void main(String[] args) throws IOException {
         String text = COMMENT.matcher(Files.readString(SOURCE)).replaceAll("");
         Map<String, String> bodies = bodies(text);
@@ -42,17 +40,7 @@ public final class LanguageTest {
         noRecursionAndNotDeep(bodies);
         noCallInsideACall(bodies);
         shortMethodsFewFields(text, bodies);
-        System.out.println(wrong == 0 ? "the rules are kept" : wrong + " rules are not kept");
-        if (wrong != 0) {
-            System.exit(1);
-        }
-    }
-
-    private static void check(boolean holds, String what) {
-        if (!holds) {
-            wrong++;
-            System.out.println("does not hold: " + what);
-        }
+        end();
     }
 
     private static void noneOf(String rule, Pattern pattern, String text) {

@@ -7,17 +7,14 @@ import java.util.regex.Matcher;
 import java.util.regex.Pattern;
 
 // The example of README.md answers what its comments say: 'net.least();  // 7: ...' has to answer 7.
-public final class ReadmeTest {
+public final class ReadmeTest extends Holds {
     private static final Path README = Path.of("README.md");
     private static final Pattern BLOCK = Pattern.compile("```java\n(.*?)```", Pattern.DOTALL);
     private static final Pattern CALL = Pattern.compile("net\\.(\\w+)\\((.*)\\);\\s*// (-?\\d+): .*");
 
-    private static int wrong = 0;
-
     public static void main(String[] args) throws IOException {
         Matcher block = BLOCK.matcher(Files.readString(README));
-        check(block.find(), "README.md has an example");
-        String[] lines = wrong == 0 ? block.group(1).split("\n") : new String[] {""};
+        String[] lines = block.find() ? block.group(1).split("\n") : new String[] {""};
         check(lines[0].equals("SteinerNet net = new SteinerNet();"), "the example begins with a new object");
         SteinerNet net = new SteinerNet();
         for (int i = 1; i < lines.length; i++) {
@@ -27,17 +24,7 @@ public final class ReadmeTest {
             boolean ownMethod = method.getDeclaringClass() == SteinerNet.class;
             check(!ownMethod || String.join("\n", lines).contains("net." + method.getName() + "("), "the example calls " + method.getName());
         }
-        System.out.println(wrong == 0 ? "README.md says what is so" : wrong + " things in README.md are not so");
-        if (wrong != 0) {
-            System.exit(1);
-        }
-    }
-
-    private static void check(boolean holds, String what) {
-        if (!holds) {
-            wrong++;
-            System.out.println("does not hold: " + what);
-        }
+        end();
     }
 
     private static void checkLine(SteinerNet net, String line) {
